@@ -446,7 +446,7 @@ public final class StripeTrees {
 
         private static final int PARENTS_AT = VALUES * MEMBERS;
         private static final int FIGURES_AT = PARENTS_AT + STRIPES * MEMBERS;
-        private static final int LENGTH = FIGURES_AT + FIGURES;
+        static final int LENGTH = FIGURES_AT + FIGURES;
 
         private final int[] cells;
 
@@ -568,7 +568,7 @@ public final class StripeTrees {
     /** The four trees: who is below whom, who ranks before whom, and how orphans are attached. */
     private static final class Trees {
 
-        private final State state;
+        final State state;
 
         Trees() {
             state = new State();
