@@ -313,8 +313,9 @@ public final class EdgeAttachTest {
             spare.join(11, 0, 0);
             spare.join(12, 0, 0);
             Check.due("10 ranks before " + last, spare.member(10, 5), 2);
+            spare.fail(last);
             spare.join(13, 0, 0);
-            Check.due(last + " has room", spare.parent(13, 0), last);
+            Check.due(last + " has room, though it has failed", spare.parent(13, 0), last);
             Check.due("and is searched for", spare.count(7), 1);
         }
     }

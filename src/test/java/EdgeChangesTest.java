@@ -9,6 +9,7 @@ public final class EdgeChangesTest {
 
     public static void main(String[] args) {
         joinAnswersFromNoneToAll();
+        joinAnswersWhatIsConnectedInTheEnd();
         joinAttachesAll();
         countsBeginWithZero();
         leaveAnswersFromNoneToEight();
@@ -76,6 +77,31 @@ public final class EdgeChangesTest {
         three.join(0, 4, 0);
         three.join(1, 4, 1);
         Check.due("three", three.join(2, 4, 2), 3);
+    }
+
+    /**
+     * "connected then": in stripe 0, 1 comes below 6, which 2 (with 5) pushes out afterwards, so that 1 has
+     * a parent there, but is not connected.
+     */
+    private static void joinAnswersWhatIsConnectedInTheEnd() {
+        StripeTrees trees = new StripeTrees();
+        trees.setSource(3);
+        trees.join(0, 3, 0);
+        trees.join(5, 1, 0);
+        trees.join(4, 3, 0);
+        trees.join(2, 1, 0);
+        trees.setSource(2);
+        trees.join(8, 2, 0);
+        trees.join(6, 1, 0);
+        trees.join(3, 3, 0);
+        Check.due("before: 6 below 3", trees.parent(6, 0), 3);
+        Check.due("before: 2 waits", trees.parent(2, 0), NONE);
+        Check.due("join(1, 3, 2): connected in stripe 1 alone", trees.join(1, 3, 2), 1);
+        Check.due("1 at the source in stripe 1", trees.parent(1, 1), SOURCE);
+        Check.due("1 below 6 in stripe 0", trees.parent(1, 0), 6);
+        Check.due("6 below nobody", trees.parent(6, 0), NONE);
+        Check.due("2 in its place", trees.parent(2, 0), 3);
+        Check.due("so 1 is not connected", trees.depth(1, 0), NONE);
     }
 
     /** "When a member joins, it is an orphan in all stripes, and orphans are attached" */

@@ -293,6 +293,7 @@ public final class EdgeTreesTest {
             carries.join(1, 1, 1);
             carries.join(2, 0, 3);
             Check.due("the first that can be inner is 0 or 1", carries.parent(2, 0), bound == 0 ? 1 : 0);
+            Check.due("and no search was needed", carries.count(7), 0);
         }
     }
 
@@ -314,6 +315,14 @@ public final class EdgeTreesTest {
         Check.due("1, which ranks first, in stripe 0", carries.parent(2, 0), 1);
         Check.due("0 in stripe 1", carries.parent(2, 1), 0);
         Check.due("1 ranks first in stripe 2, and has room but for its child", carries.parent(2, 2), NONE);
+        StripeTrees third = new StripeTrees();
+        third.setSource(3);
+        third.join(0, 1, 3);
+        third.join(1, 8, 0);
+        third.join(3, 2, 1);
+        Check.due("1, then 3, then 0", third.join(2, 0, 3), 3);
+        Check.due("0 ranks last in stripe 2, but has no child in another one", third.parent(2, 2), 0);
+        Check.due("and no search was needed", third.count(7), 0);
     }
 
     private static void failedMayBeInner() {
@@ -384,6 +393,8 @@ public final class EdgeTreesTest {
         StripeTrees chain = Scenes.chain();
         stripeValues(chain, 0, 32, 0, 32, 1, 1, 31);
         stripeValues(chain, 1, 1, 31, 1, 1, 0, 0);
+        // 1, which is not connected, has a child there all the same.
+        stripeValues(Scenes.cutOff(), 0, 1, 1, 1, 1, 0, 1);
         StripeTrees wide = full(8);
         stripeValues(wide, 3, 8, 0, 1, 8, 0, 0);
         StripeTrees rooms = new StripeTrees();
