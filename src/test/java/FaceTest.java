@@ -8,13 +8,14 @@ import java.util.TreeSet;
 /** The face of the class: what DOC.md lists under "The public face", and nothing else that can be seen. */
 public final class FaceTest {
 
+    // O: IndexOutOfBoundsException, A: IllegalArgumentException, S: IllegalStateException, as declared.
     private static final String[] METHODS = {
-        "int join(int, int, int)", "int leave(int)", "int fail(int)", "int setBound(int, int)",
-        "int setSource(int)", "int setDelay(int)", "int repair()", "int rejoin(int, int)", "int tick(int)",
-        "int time()", "int member(int, int)", "int parent(int, int)", "int depth(int, int)",
-        "int child(int, int, int)", "int subtree(int, int)", "boolean hasRoom(int, int)",
-        "boolean ranksBefore(int, int, int)", "int harm(int)", "int pieces(int)", "int stripe(int, int)",
-        "int count(int)", "int undo()", "long digest()"
+        "int join(int, int, int) OAS", "int leave(int) OS", "int fail(int) OS", "int setBound(int, int) OAS",
+        "int setSource(int) A", "int setDelay(int) A", "int repair() ", "int rejoin(int, int) OS",
+        "int tick(int) A", "int time() ", "int member(int, int) OA", "int parent(int, int) OS",
+        "int depth(int, int) OS", "int child(int, int, int) OAS", "int subtree(int, int) OS",
+        "boolean hasRoom(int, int) OS", "boolean ranksBefore(int, int, int) OAS", "int harm(int) OS",
+        "int pieces(int) OS", "int stripe(int, int) OA", "int count(int) A", "int undo() S", "long digest() "
     };
 
     public static void main(String[] args) {
@@ -32,10 +33,20 @@ public final class FaceTest {
             Check.due(method + " is public", Modifier.isPublic(method.getModifiers()), true);
             String types = Arrays.toString(method.getParameterTypes());
             seen.add(method.getReturnType() + " " + method.getName() + "("
-                    + types.substring(1, types.length() - 1) + ")");
+                    + types.substring(1, types.length() - 1) + ") " + declared(method));
         }
         TreeSet<String> want = new TreeSet<>(Arrays.asList(METHODS));
         Check.due("the methods " + seen + " are those of the face", seen.equals(want), true);
+    }
+
+    private static String declared(Method method) {
+        StringBuilder letters = new StringBuilder();
+        for (Class<?> kind : method.getExceptionTypes()) {
+            letters.append(kind == IndexOutOfBoundsException.class ? 'O'
+                    : kind == IllegalArgumentException.class ? 'A'
+                    : kind == IllegalStateException.class ? 'S' : '?');
+        }
+        return letters.toString();
     }
 
     private static void constantsAndConstructor() {
@@ -53,6 +64,9 @@ public final class FaceTest {
         Constructor<?>[] made = StripeTrees.class.getDeclaredConstructors();
         Check.due("constructors", made.length, 1);
         Check.due("parameters of the constructor", made[0].getParameterCount(), 0);
+        Check.due("the constructor is public", Modifier.isPublic(made[0].getModifiers()), true);
+        Check.due("exceptions of the constructor", made[0].getExceptionTypes().length, 0);
+        Check.due("the class is public", Modifier.isPublic(StripeTrees.class.getModifiers()), true);
         Check.due("the class is final", Modifier.isFinal(StripeTrees.class.getModifiers()), true);
     }
 }
