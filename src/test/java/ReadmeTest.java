@@ -1,4 +1,3 @@
-import java.io.ByteArrayOutputStream;
 import java.io.File;
 import java.io.IOException;
 import java.io.InputStream;
@@ -9,7 +8,6 @@ import java.nio.file.Files;
 import java.nio.file.Path;
 import java.util.List;
 import java.util.TreeSet;
-import javax.tools.ToolProvider;
 
 /** README.md keeps its word: its example compiles and prints what stands there, and its tables are whole. */
 public final class ReadmeTest {
@@ -37,27 +35,20 @@ public final class ReadmeTest {
         Path place = Files.createTempDirectory("readme");
         Path source = place.resolve("Example.java");
         Files.write(source, block(readme, "java"), StandardCharsets.UTF_8);
-        ByteArrayOutputStream said = new ByteArrayOutputStream();
-        int refused = ToolProvider.getSystemJavaCompiler().run(null, said, said, "-d", place.toString(),
-                "src/main/java/StripeTrees.java", source.toString());
-        Check.due("compiling the example: " + said.toString(StandardCharsets.UTF_8), refused, 0);
-        if (refused == 0) {
-            List<String> want = block(readme, "text");
-            List<String> got = printed(place);
-            Check.due("the example, which prints " + got, got.equals(want), true);
-        }
+        printed("javac", "-d", place.toString(), "src/main/java/StripeTrees.java", source.toString());
+        List<String> got = printed("java", "-cp", place.toString(), "Example");
+        Check.due("the example, which prints " + got, got.equals(block(readme, "text")), true);
         removeAll(place);
     }
 
-    private static List<String> printed(Path place) throws IOException, InterruptedException {
-        String java = Path.of(System.getProperty("java.home"), "bin", "java").toString();
-        Process process = new ProcessBuilder(java, "-cp", place.toString(), "Example")
-                .redirectErrorStream(true).start();
+    /** What the command prints as output; notices of the machine itself go to the errors, and are left out. */
+    private static List<String> printed(String... command) throws IOException, InterruptedException {
+        Process process = new ProcessBuilder(command).redirectError(ProcessBuilder.Redirect.INHERIT).start();
         List<String> lines;
         try (InputStream output = process.getInputStream()) {
             lines = new String(output.readAllBytes(), StandardCharsets.UTF_8).lines().toList();
         }
-        Check.due("the example's exit code", process.waitFor(), 0);
+        Check.due("the exit code of " + command[0], process.waitFor(), 0);
         return lines;
     }
 
